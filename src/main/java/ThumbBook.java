@@ -828,7 +828,7 @@ public final class ThumbBook {
         }
 
         int through(int all) {
-            return cutDown((long) all * goes, 100);
+            return (int) ((long) all * goes / 100);
         }
     }
 
@@ -873,7 +873,8 @@ public final class ThumbBook {
         }
 
         int yearly(int kind, int place) {
-            return Math.max(0, cutDown((long) often[kind] * (100 - fewer[kind] * place), 100));
+            int stays = 100 - fewer[kind] * place;
+            return stays < 0 ? 0 : often[kind] * stays / 100;
         }
     }
 
@@ -1075,7 +1076,7 @@ public final class ThumbBook {
             int from = 0;
             for (int w = 0; w < washings; w++) {
                 own += law.darkens * turned(ways, leaf, from, washYear[w]);
-                own = cutDown((long) own * (100 - washOff[w]), 100);
+                own = (int) ((long) own * (100 - washOff[w]) / 100);
                 from = washYear[w] + 1;
             }
             return own + law.darkens * turned(ways, leaf, from, LAST_YEAR);

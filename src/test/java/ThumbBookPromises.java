@@ -182,6 +182,9 @@ public final class ThumbBookPromises {
         bookFault("text 1, 1;", 1, 6);
         bookFault("text\t1 1;", 1, 4);
         bookFault("texts 1 1;", 1, 0);
+        bookFault("textz 1 1;", 1, 0);
+        bookFault("xext 1 1;", 1, 0);
+        bookFault("tex 1 1;", 1, 0);
         bookFault("12345", 1, 0);
         bookFault("hair 1 12345;", 1, 7);
         bookFault("text 12 1;", 2, 5);
@@ -201,7 +204,7 @@ public final class ThumbBookPromises {
         bookFault("text 1 1;spilt 10000 0;", 2, 15);
         bookFault("text 1 1;spilt 0 0;", 2, 17);
         bookFault("text 1 1;spilt 0 1000;", 2, 17);
-        bookFault("text 1 1;spilt 0 9;spilt 0 0;", 5, 25);
+        bookFault("text 1 1;spilt 0 1;spilt 0 0;", 5, 25);
         bookFault("washed 501 1;", 2, 7);
         bookFault("washed 500 0;", 2, 11);
         bookFault("washed 500 100;", 2, 11);
@@ -317,6 +320,9 @@ public final class ThumbBookPromises {
         }
         due("known", x.about(2, 4), 1);
         due("no leaves, not known", x.about(0, 4), 0);
+        book(3, "text 0 2;");
+        x.read(3, 1, 50);
+        due("leaf 0 wasn't read", x.about(3, 4), 0);
         noSuch("7", () -> x.about(2, 7));
         noSuch("-1", () -> x.about(2, -1));
         noSuch("book 6", () -> x.about(6, 0));
@@ -494,6 +500,8 @@ public final class ThumbBookPromises {
         due("a million", x.read(0, 1, 1000000), false);
         due("status", x.count(6), 3);
         book(1, "text 0 1;");
+        due("a million of a leaf unread", x.read(1, 0, 1000000), false);
+        due("-1 of a leaf unread", x.read(1, 0, -1), false);
         due("greatest", x.read(1, 0, 999999), true);
         due("greatest bound", x.bounds(1, 0, 1), 1000002);
         law("slip 0;");
@@ -687,6 +695,9 @@ public final class ThumbBookPromises {
         due("no way tells a kind", x.whose(0), NONE);
         way(4, "kind 0 3;kind 1 1;");
         due("the only one", x.whose(0), 4);
+        way(4, "kind 0 3;");
+        due("kind 0 alone", x.whose(0), 4);
+        way(4, "kind 0 3;kind 1 1;");
         way(2, "kind 0 1;kind 1 1;");
         due("nearer", x.whose(0), 4);
         way(5, "kind 0 6;kind 1 2;");
@@ -915,6 +926,11 @@ public final class ThumbBookPromises {
     static void tolds() {
         start(34);
         due("no leaves", x.told(0, 0, 100, 1), 0);
+        book(0, "text 0 1;");
+        due("no way tells a kind", x.told(0, 0, 3, 1), 0);
+        way(3, "kind 0 9;");
+        due("one leaf", x.told(0, 3, 3, 1), 3);
+        way(3, "");
         way(0, "kind 0 9;kind 1 1;");
         way(1, "kind 0 1;kind 1 9;");
         book(0, "text 0 4;text 1 4;");
