@@ -1,103 +1,12 @@
-import java.util.NoSuchElementException;
-import java.util.function.LongSupplier;
-
 /** Each promise of the document by hand: ordinary inputs, the edges that it names, wrong inputs. */
-public final class ThumbBookPromises {
-    static final int NONE = -1;
-    static int wrong;
-    static int promise;
-    static ThumbBook x;
-
-    static void due(String what, long got, long want) {
-        if (got != want) {
-            wrong++;
-            System.out.println("promise " + promise + ", " + what + ": answered " + got + ", due is " + want);
-        }
-    }
-
-    static void due(String what, boolean got, boolean want) {
-        due(what, got ? 1 : 0, want ? 1 : 0);
-    }
-
-    static String thrown(LongSupplier call) {
-        try {
-            call.getAsLong();
-            return "nothing";
-        } catch (NoSuchElementException e) {
-            return "no such";
-        } catch (IllegalArgumentException e) {
-            return "illegal";
-        }
-    }
-
-    static void noSuch(String what, LongSupplier call) {
-        due(what + " throws NoSuchElementException", thrown(call).equals("no such"), true);
-    }
-
-    static void illegal(String what, LongSupplier call) {
-        due(what + " throws IllegalArgumentException", thrown(call).equals("illegal"), true);
-    }
-
+public final class ThumbBookPromises extends Desk {
     static void start(int number) {
-        promise = number;
-        x = new ThumbBook();
+        on(number);
+        fresh();
     }
 
-    static void tape(String text) {
-        StringBuilder s = new StringBuilder(text);
-        while (s.length() % 20 != 0) {
-            s.append('?');
-        }
-        for (int i = 0; i < s.length(); i += 20) {
-            int[] n = new int[5];
-            for (int j = 0; j < 20; j++) {
-                n[j / 4] = n[j / 4] << 8 | s.charAt(i + j);
-            }
-            x.feed(n[0], n[1], n[2], n[3], n[4]);
-        }
-    }
-
-    static int book(int book, String text) {
-        tape(text);
-        return x.book(book, text.length());
-    }
-
-    static int law(String text) {
-        tape(text);
-        return x.law(text.length());
-    }
-
-    static int way(int way, String text) {
-        tape(text);
-        return x.way(way, text.length());
-    }
-
-    static void bookFault(String text, int fault, int place) {
-        due("book " + text, book(0, text), fault);
-        due("fault() of book " + text, x.fault(), place);
-    }
-
-    static void lawFault(String text, int fault, int place) {
-        due("law " + text, law(text), fault);
-        due("fault() of law " + text, x.fault(), place);
-    }
-
-    static void wayFault(String text, int fault, int place) {
-        due("way " + text, way(0, text), fault);
-        due("fault() of way " + text, x.fault(), place);
-    }
-
-    /** A book of one leaf a text, of shades that make these turns exactly (no slip, nothing through, turn 1). */
-    static void exact(int book, String text, int... turns) {
-        law("slip 0;goes 0;turn 1;");
-        book(book, text);
-        for (int leaf = 0; leaf < turns.length; leaf++) {
-            x.read(book, leaf, 40 + turns[leaf]);
-        }
-    }
-
-    static String blanks(int n) {
-        return " ".repeat(n);
+    static void on(int promise) {
+        where = "promise " + promise;
     }
 
     static void newObject() {
@@ -384,7 +293,7 @@ public final class ThumbBookPromises {
         noSuch("way 6", () -> x.reader(0, 6, 2, 1));
         noSuch("way -1", () -> x.reader(0, -1, 0, 0));
         due("status stays", x.count(7), 4);
-        promise = 12;
+        on(12);
         due("gone", x.gone(0), 7);
         due("a place is free", x.reader(0, 0, 0, 0), 8);
         due("the last", x.gone(1), 0);
@@ -452,7 +361,7 @@ public final class ThumbBookPromises {
             all = 19839600 + all * 90 / 100;
             due("most all " + leaf, x.dirt(1, leaf, 1), all);
         }
-        promise = 14;
+        on(14);
         due("readings too dark are refused", x.drawn(1, 1), 40);
         due("status", x.count(6), 40);
     }
@@ -613,7 +522,7 @@ public final class ThumbBookPromises {
         noSuch("-1", () -> x.humps(0, -1));
         noSuch("not known", () -> x.humps(1, 1));
         noSuch("book", () -> x.humps(6, 1));
-        promise = 20;
+        on(20);
         int[][] want = {{9, 0}, {1, 1}, {0, 2}, {4, 3}, {2, 3}};
         for (int[] w : want) {
             due("four, kind " + w[0], x.hump(0, 4, w[0]), w[1]);
@@ -655,10 +564,10 @@ public final class ThumbBookPromises {
         way(1, "kind 1 2;");
         exact(0, "text 0 1;text 1 1;", 30, 12);
         due("one", x.fitted(0, 0, NONE), 24);
-        promise = 22;
+        on(22);
         due("x", x.years(0), 10);
         due("y of one", x.years(1), 0);
-        promise = 21;
+        on(21);
         due("two", x.fitted(0, 0, 1), 0);
         due("x", x.years(0), 10);
         due("y", x.years(1), 6);
@@ -679,7 +588,7 @@ public final class ThumbBookPromises {
         noSuch("other -2", () -> x.fitted(0, 0, -2));
         noSuch("not known", () -> x.fitted(5, 0, NONE));
         noSuch("book", () -> x.fitted(6, 0, NONE));
-        promise = 22;
+        on(22);
         due("years stay", x.years(0), 1);
         noSuch("what 2", () -> x.years(2));
         noSuch("what -1", () -> x.years(-1));
@@ -788,11 +697,11 @@ public final class ThumbBookPromises {
         }
         due("a 21st", x.blank(1, 1), NONE);
         due("status", x.count(8), 5);
-        promise = 27;
+        on(27);
         due("clear", x.clear(), 20);
         due("none", x.count(4), 0);
         due("clear of none", x.clear(), 0);
-        promise = 28;
+        on(28);
         due("no trials", x.turn(0), NONE);
         due("no trials", x.turn(1), NONE);
         x.blank(7, 20);
@@ -834,7 +743,7 @@ public final class ThumbBookPromises {
         due("none", x.town(10), 0);
         noSuch("kind 12", () -> x.town(12));
         noSuch("kind -1", () -> x.town(-1));
-        promise = 30;
+        on(30);
         due("itself", x.alike(0, 0), 3);
         due("one pair the same way", x.alike(0, 1), -1);
         due("the other way round", x.alike(0, 2), -3);
@@ -845,7 +754,7 @@ public final class ThumbBookPromises {
         noSuch("not known", () -> x.alike(0, 5));
         noSuch("not known", () -> x.alike(5, 0));
         noSuch("book", () -> x.alike(0, 6));
-        promise = 31;
+        on(31);
         due("most alike", x.nearest(0), 3);
         due("of like ones the least", x.nearest(4), 0);
         due("below nothing too", x.nearest(2), 1);
@@ -1028,7 +937,7 @@ public final class ThumbBookPromises {
         book(1, "text 5 1;");
         x.read(1, 0, 60);
         due("a text with a fault", book(2, "?"), 1);
-        promise = 37;
+        on(37);
         due("restore", x.restore(), true);
         due("bounds", x.bounds(0, 0, 0), 47);
         due("bounds", x.bounds(0, 0, 1), 53);
@@ -1086,9 +995,6 @@ public final class ThumbBookPromises {
         tolds();
         nexts();
         images();
-        System.out.println(wrong == 0 ? "all promises answer as due" : wrong + " answers are not as due");
-        if (wrong != 0) {
-            System.exit(1);
-        }
+        finish("all promises answer as due");
     }
 }
