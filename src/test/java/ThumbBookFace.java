@@ -24,14 +24,41 @@ public final class ThumbBookFace {
     }
 
     static final String[] FACE = {
-        "int feed(int, int, int, int, int)", "int book(int, int)", "int law(int)", "int way(int, int)", "int fault()",
-        "int count(int)", "int about(int, int)", "int leaf(int, int, int)", "int turnings(int, int, int)",
-        "int reader(int, int, int, int)", "int gone(int)", "int dirt(int, int, int)", "int drawn(int, int)",
-        "boolean read(int, int, int)", "int bounds(int, int, int)", "int light(int, int)", "int sleepy(int, int)",
-        "long humps(int, int)", "int hump(int, int, int)", "int fitted(int, int, int)", "int years(int)",
-        "int whose(int)", "int order(int, int)", "int falls(int, int)", "int blank(int, int)", "int clear()",
-        "int turn(int)", "int town(int)", "int alike(int, int)", "int nearest(int)", "int sure(int, int, int)",
-        "int before(int, int, int, int)", "int told(int, int, int, int)", "int next(int)", "void image()",
+        "int feed(int, int, int, int, int)",
+        "int book(int, int) throws NoSuchElementException, IllegalArgumentException",
+        "int law(int) throws IllegalArgumentException",
+        "int way(int, int) throws NoSuchElementException, IllegalArgumentException",
+        "int fault()",
+        "int count(int) throws NoSuchElementException",
+        "int about(int, int) throws NoSuchElementException",
+        "int leaf(int, int, int) throws NoSuchElementException",
+        "int turnings(int, int, int) throws NoSuchElementException",
+        "int reader(int, int, int, int) throws NoSuchElementException",
+        "int gone(int) throws NoSuchElementException",
+        "int dirt(int, int, int) throws NoSuchElementException",
+        "int drawn(int, int) throws NoSuchElementException",
+        "boolean read(int, int, int) throws NoSuchElementException",
+        "int bounds(int, int, int) throws NoSuchElementException",
+        "int light(int, int) throws NoSuchElementException",
+        "int sleepy(int, int) throws NoSuchElementException",
+        "long humps(int, int) throws NoSuchElementException",
+        "int hump(int, int, int) throws NoSuchElementException",
+        "int fitted(int, int, int) throws NoSuchElementException",
+        "int years(int) throws NoSuchElementException",
+        "int whose(int) throws NoSuchElementException",
+        "int order(int, int) throws NoSuchElementException",
+        "int falls(int, int) throws NoSuchElementException",
+        "int blank(int, int)",
+        "int clear()",
+        "int turn(int) throws NoSuchElementException",
+        "int town(int) throws NoSuchElementException",
+        "int alike(int, int) throws NoSuchElementException",
+        "int nearest(int) throws NoSuchElementException",
+        "int sure(int, int, int) throws NoSuchElementException",
+        "int before(int, int, int, int) throws NoSuchElementException, IllegalArgumentException",
+        "int told(int, int, int, int) throws NoSuchElementException, IllegalArgumentException",
+        "int next(int) throws NoSuchElementException",
+        "void image()",
         "boolean restore()"};
 
     static String signature(Method m) {
@@ -39,7 +66,12 @@ public final class ThumbBookFace {
         for (Class<?> type : m.getParameterTypes()) {
             types.add(type.getSimpleName());
         }
-        return m.getReturnType().getSimpleName() + " " + m.getName() + "(" + String.join(", ", types) + ")";
+        List<String> thrown = new ArrayList<>();
+        for (Class<?> type : m.getExceptionTypes()) {
+            thrown.add(type.getSimpleName());
+        }
+        String behind = thrown.isEmpty() ? "" : " throws " + String.join(", ", thrown);
+        return m.getReturnType().getSimpleName() + " " + m.getName() + "(" + String.join(", ", types) + ")" + behind;
     }
 
     static void face() {
@@ -68,6 +100,7 @@ public final class ThumbBookFace {
         for (Field f : c.getDeclaredFields()) {
             boolean isNone = f.getName().equals("NONE");
             check(f.getName() + " is private", isNone || Modifier.isPrivate(f.getModifiers()));
+            check("NONE is a public constant", !isNone || Modifier.isPublic(f.getModifiers()) && f.getType() == int.class);
             check(f.getName() + " is final if static", !Modifier.isStatic(f.getModifiers()) || Modifier.isFinal(f.getModifiers()));
         }
         for (Class<?> inner : c.getDeclaredClasses()) {
