@@ -9,7 +9,7 @@ public final class ThumbBookEdgesDirt extends Desk {
 
     // ---- Terms 2: readers
 
-    @Says("READERS of a BOOK (at most 8)")
+    @Says({"READERS of a BOOK (at most 8)", "A READER: how many the BOOK has."})
     static void eightReaders() {
         oneLeaf(1, ";");
         for (int i = 1; i <= 8; i++) {
@@ -127,6 +127,31 @@ public final class ThumbBookEdgesDirt extends Desk {
         x.reader(0, 0, from, to);
         due("own of " + from + " to " + to, x.dirt(0, 0, 0), want);
         x.gone(0);
+    }
+
+    @Says("OWN dirt of a LEAF: TURN by TURNINGS, YEAR by YEAR")
+    static void turnByTurnings() {
+        oneLeaf(99, ";");
+        ownBy(7, 7, 99);
+        ownBy(7, 8, 198);
+        law("turn 50;goes 0;");
+        ownBy(7, 7, 4950);
+        for (int i = 0; i < 8; i++) {
+            x.reader(0, 0, 0, 500);
+        }
+        due("the most turnings", x.dirt(0, 0, 3), 8 * 501 * 99);
+        due("the most dirt", x.dirt(0, 0, 0), 50 * 8 * 501 * 99);
+        law("turn 50;goes 90;");
+        book(1, "text 0 20 born 200;text 0 20 born 200;hair 100;spilt 39 999;");
+        for (int i = 0; i < 8; i++) {
+            x.reader(1, 0, 0, 500);
+        }
+        long all = 0;
+        for (int leaf = 0; leaf < 40; leaf++) {
+            all = 19839600 + all * 90 / 100;
+            due("the most on leaf " + leaf, x.dirt(1, leaf, 1), leaf < 39 ? all : all + 999);
+        }
+        due("the darkest of all", x.dirt(1, 39, 2), all + 999 + 300);
     }
 
     @Says("in a YEAR that it is washed, behind that, what is there by 100 less OFF, by 100, cut down")
@@ -280,19 +305,10 @@ public final class ThumbBookEdgesDirt extends Desk {
         readingsAre(50, 22, 0, 0);
     }
 
-    /** Shades of 999,999 and more: 3 by 333,333 TURNINGS, of six READERS of 501 YEARS and one of 361, 99 in a YEAR. */
-    static void darkest(int book, String leaves) {
-        law("turn 3;goes 0;slip 0;");
-        way(0, "kind 0 99;");
-        book(book, leaves);
-        for (int i = 0; i < 6; i++) {
-            x.reader(book, 0, 0, 500);
-        }
-        x.reader(book, 0, 0, 360);
-    }
-
     @Says("READINGS are DRAWN: how many were refused (STATUS 1 counts them).")
     static void refusedDrawings() {
+        law("turn 3;goes 0;slip 0;");
+        way(0, "kind 0 99;");
         darkest(0, "text 0 1 born 0;text 0 1 born 1;");
         due("the darkest", x.dirt(0, 0, 2), 999999);
         due("too dark", x.dirt(0, 1, 2), 1000000);
@@ -435,7 +451,7 @@ public final class ThumbBookEdgesDirt extends Desk {
         undoneIs(1, 0, 1);
     }
 
-    @Says("both less what is spilt (of LEAF 0 nothing goes through); only if the LEAF and that ahead were read")
+    @Says("UNDONE: OWN dirt from the lesser BARE bound less what goes through by the greater one of the LEAF ahead, to the greater one less what goes through by the lesser one ahead, both less what is spilt (of LEAF 0 nothing goes through); only if the LEAF and that ahead were read.")
     static void undoneOfALeaf() {
         law("turn 2;goes 20;slip 3;");
         book(0, "text 0 3 born 40;spilt 0 5;spilt 1 5;");
@@ -482,6 +498,10 @@ public final class ThumbBookEdgesDirt extends Desk {
         book(0, "text 0 2 born 0;");
         readAll(0, 0, 10, 0);
         undoneIs(1, -5, -5, 0, -2, 0, 1);
+        law("turn 1;goes 50;slip 0;");
+        undoneIs(1, -5, -5, 0, -5, 0, 1);
+        law("turn 1;goes 10;slip 0;");
+        undoneIs(1, -1, -1, 0, -1, 0, 1);
         law("turn 50;goes 0;slip 1;");
         book(0, "text 0 3 born 0;");
         readAll(0, 0, 99, 1, 51);

@@ -1,3 +1,5 @@
+import java.util.Arrays;
+
 /** What a known book tells: part 4 of the terms, and promises 18 to 25, sentence by sentence. */
 public final class ThumbBookEdgesSigns extends Desk {
     static int[] steps(int n, int first, int step) {
@@ -90,11 +92,7 @@ public final class ThumbBookEdgesSigns extends Desk {
 
     /** Of as many texts of one leaf as there are lights, of the kinds 0 on. */
     static void lightsOf(int book, int... lights) {
-        StringBuilder s = new StringBuilder();
-        for (int kind = 0; kind < lights.length; kind++) {
-            s.append("text ").append(kind).append(" 1;");
-        }
-        exact(book, s.toString(), lights);
+        exact(book, kindsOfOneLeaf(lights.length), lights);
     }
 
     static void humpsAre(int groups, long spreads, int... groupOfKind) {
@@ -114,7 +112,7 @@ public final class ThumbBookEdgesSigns extends Desk {
     static void numberOfGroups() {
         int[] lights = {5, 105, 205, 305, 405};
         for (int kinds = 1; kinds <= 5; kinds++) {
-            lightsOf(0, java.util.Arrays.copyOf(lights, kinds));
+            lightsOf(0, Arrays.copyOf(lights, kinds));
             for (int groups : new int[] {LEAST_INT, -1, 0, 5, GREATEST_INT}) {
                 noHumps(groups);
             }
@@ -133,6 +131,17 @@ public final class ThumbBookEdgesSigns extends Desk {
         humpsAre(4, 4 * 2000, 0, 0, 0, 1, 1, 1, 2, 2, 2, 3, 3, 3);
         noHumps(5);
         noHumps(12);
+    }
+
+    @Says("HUMPS: LIGHTS of KINDS that a BOOK has, by their size")
+    static void bySize() {
+        lightsOf(0, 9, 5, 1, 12, 6);
+        // 1 | 5 6 | 9 12.
+        humpsAre(3, 500 + 4500, 2, 1, 0, 2, 1);
+        humpsAre(4, 500, 2, 1, 0, 3, 1);
+        lightsOf(0, 50, 40, 30, 20, 10);
+        humpsAre(4, 50000, 3, 3, 2, 1, 0);
+        humpsAre(2, 50000 + 200000, 1, 1, 1, 0, 0);
     }
 
     @Says("SPREAD of n numbers: 1000 by (n by the sum of squares, less the square of the sum), by n, cut down.")
@@ -211,7 +220,8 @@ public final class ThumbBookEdgesSigns extends Desk {
         }
     }
 
-    @Says({"of like ones the least x, then y", "sum of 2 x a and 2 y b less MIDST, without sign"})
+    @Says({"such that over all LEAVES what TURNINGS of a YEAR by the first by x, and by the second by y, differ from half of MIDST, doubled, is least together",
+        "sum of 2 x a and 2 y b less MIDST, without sign; of like ones the least x, then y."})
     static void leastYears() {
         way(0, "kind 0 2;");
         way(1, "kind 5 1;");
@@ -281,7 +291,7 @@ public final class ThumbBookEdgesSigns extends Desk {
 
     // ---- whose
 
-    @Says({"WHOSE: of WAYS that tell some KIND the one", "WHOSE; NONE: no WAY tells a KIND."})
+    @Says({"WHOSE: of WAYS that tell some KIND the one for which, over KINDS of the BOOK", "WHOSE; NONE: no WAY tells a KIND."})
     static void waysThatTellSome() {
         lightsOf(0, 30, 10);
         due("no way tells a kind", x.whose(0), NONE);
@@ -332,6 +342,14 @@ public final class ThumbBookEdgesSigns extends Desk {
         due("80 and 80: the least", x.whose(0), 0);
         way(2, "kind 0 9;kind 1 18;kind 2 27;");
         due("none apart", x.whose(0), 2);
+        lightsOf(0, 10, 10, 10);
+        way(0, "kind 0 1;kind 1 3;kind 2 3;");
+        way(1, "kind 0 7;kind 1 8;kind 2 6;");
+        way(2, "");
+        // By 7: 70 each less 30, 90, 90: 40, 20, 20. By 21: 210 each less 210, 240, 180: 0, 30, 30.
+        due("60 below 80, of all three kinds", x.whose(0), 1);
+        way(1, "kind 0 8;kind 1 6;kind 2 7;");
+        due("60 below 80, however they lie", x.whose(0), 1);
     }
 
     // ---- order
@@ -373,7 +391,7 @@ public final class ThumbBookEdgesSigns extends Desk {
         orderIs(3, 0, 1, 0);
     }
 
-    @Says({"of like ones the least LEAF, then place; if none is less than as it is, there is none", "NONE of 1 to 3: there is none"})
+    @Says("of like ones the least LEAF, then place; if none is less than as it is, there is none.")
     static void moves() {
         halfThrough("", 100, 0, 50, 50);
         // Leaf 0 may lie at 1, 2 or 3, or leaf 1 at 0.
@@ -381,6 +399,9 @@ public final class ThumbBookEdgesSigns extends Desk {
         halfThrough("", 60, 100, 20, 50);
         // Moves of leaf 0 and 1 leave 10 at least; leaf 2 ahead of all leaves nothing.
         orderIs(30, 2, 0, 0);
+        halfThrough("", 50, 100, 20, 20);
+        // Leaf 0 between 1 and 2 leaves 5; so does leaf 1 at 0 or 3.
+        orderIs(30, 0, 1, 5);
         halfThrough("", 0, 100, 10);
         orderIs(40, 1, 2, 0);
         halfThrough("", 100, 10);
@@ -411,7 +432,7 @@ public final class ThumbBookEdgesSigns extends Desk {
         orderIs(50, 18, 19, 0);
     }
 
-    @Says("ORDER: WANT (what 0); of the MOVE the LEAF (1), its place then (2), WANT then (3)")
+    @Says("ORDER: WANT (what 0); of the MOVE the LEAF (1), its place then (2), WANT then (3); NONE of 1 to 3: there is none. NoSuchElementException: also another what.")
     static void orderWhats() {
         halfThrough("", 10, 4);
         for (int what : new int[] {-1, 4, LEAST_INT, GREATEST_INT}) {

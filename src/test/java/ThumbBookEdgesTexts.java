@@ -109,6 +109,10 @@ public final class ThumbBookEdgesTexts extends Desk {
         bookFault("hair 5<", 1, 6);
         bookFault("hair 5;;", 1, 7);
         bookFault(";", 1, 0);
+        lawFault(";", 1, 0);
+        lawFault("turn 1;;", 1, 7);
+        wayFault(";", 1, 0);
+        wayFault("kind 1 1;;", 1, 9);
         bookFault("hair 5 hair 6;", 1, 7);
     }
 
@@ -421,6 +425,29 @@ public final class ThumbBookEdgesTexts extends Desk {
         }
     }
 
+    /** Each letter of each word but once put in place of another one. */
+    static void misspelt(String language, String whole) {
+        for (int at = 0; at < whole.length(); at++) {
+            if (at % 60 == 0) {
+                fresh();
+            }
+            int start = at;
+            while (start > 0 && isLetter(whole.charAt(start - 1))) {
+                start--;
+            }
+            if (isLetter(whole.charAt(at))) {
+                faulty(language, whole.substring(0, at) + "q" + whole.substring(at + 1), 1, start);
+            }
+        }
+    }
+
+    @Says("a TOKEN that can't stand there")
+    static void misspeltWords() {
+        misspelt("book", WHOLE_BOOK);
+        misspelt("law", WHOLE_LAW);
+        misspelt("way", WHOLE_WAY);
+    }
+
     @Says("1 a TOKEN that can't stand there, or is none")
     static void cannotStandThere() {
         wrongAtEachPlace("book", WHOLE_BOOK);
@@ -559,6 +586,11 @@ public final class ThumbBookEdgesTexts extends Desk {
     }
 
     // ---- Promises 1 to 6
+
+    @Says("`NONE = -1`: There is none.")
+    static void constants() {
+        due("NONE", ThumbBook.NONE, -1);
+    }
 
     @Says("Books of no LEAVES.")
     static void newObject() {
@@ -799,11 +831,7 @@ public final class ThumbBookEdgesTexts extends Desk {
             noSuch("about " + what, () -> x.about(0, what));
             noSuch("about " + what + " of no leaves", () -> x.about(5, what));
         }
-        StringBuilder s = new StringBuilder();
-        for (int kind = 11; kind >= 0; kind--) {
-            s.append("text ").append(kind).append(" 1;");
-        }
-        book(1, s.toString());
+        book(1, kindsOfOneLeaf(12));
         due("all kinds", x.about(1, 6), 4095);
         book(1, "text 0 1;text 11 1;text 0 1;");
         due("the first and the last kind", x.about(1, 6), 2049);

@@ -137,7 +137,7 @@ public final class ThumbBookEdgesTown extends Desk {
         due("like LIGHTS lie no way in both", x.alike(4, 4), 2);
         due("itself", x.alike(0, 0), 3);
         due("the other way in itself", x.alike(2, 4), -2);
-        exact(5, allKindsOfOneLeaf(), 1, 2, 3, 4, 5, 6, 7, 8, 9, 10, 11, 12);
+        exact(5, kindsOfOneLeaf(12), 1, 2, 3, 4, 5, 6, 7, 8, 9, 10, 11, 12);
         due("all pairs of twelve", x.alike(5, 5), 66);
         noSuch("no such other", () -> x.alike(0, 6));
         noSuch("no such other", () -> x.alike(0, NONE));
@@ -145,14 +145,6 @@ public final class ThumbBookEdgesTown extends Desk {
         book(5, "text 0 1;");
         noSuch("the other isn't known", () -> x.alike(0, 5));
         noSuch("it isn't known", () -> x.alike(5, 0));
-    }
-
-    static String allKindsOfOneLeaf() {
-        StringBuilder s = new StringBuilder();
-        for (int kind = 0; kind <= 11; kind++) {
-            s.append("text ").append(kind).append(" 1;");
-        }
-        return s.toString();
     }
 
     @Says({"NEAREST to a BOOK: the other KNOWN one of most ALIKE, of like ones the least.", "NEAREST; NONE: no other one is KNOWN."})
@@ -359,15 +351,6 @@ public final class ThumbBookEdgesTown extends Desk {
         due("some are refused", x.told(0, 0, 5, 1), 4);
         due("not STATUS", x.count(6), 0);
         due("another WAY", x.told(0, 1, 5, 1), 0);
-    }
-
-    /** 333,333 TURNINGS of KIND 0: 999,999 by TURN 3. */
-    static void darkest(int book, String text) {
-        book(book, text);
-        for (int i = 0; i < 6; i++) {
-            x.reader(book, 0, 0, 500);
-        }
-        x.reader(book, 0, 0, 360);
     }
 
     @Says("TOLD (also of a BOOK that isn't KNOWN; 0 of no LEAVES). NoSuchElementException: also no such WAY. IllegalArgumentException (behind that): how many times.")

@@ -547,13 +547,11 @@ public final class ThumbBookPromises extends Desk {
 
     static void greatHumps() {
         start(19);
-        StringBuilder s = new StringBuilder();
         int[] turns = new int[12];
-        for (int kind = 0; kind < 12; kind++) {
-            s.append("text ").append(kind).append(" 1;");
-            turns[kind] = kind < 6 ? 0 : 999999 - 40;
+        for (int kind = 6; kind < 12; kind++) {
+            turns[kind] = 999999 - 40;
         }
-        exact(0, s.toString(), turns);
+        exact(0, kindsOfOneLeaf(12), turns);
         due("great ones", x.humps(0, 1), 1000L * (36L * 999959L * 999959L) / 12);
         due("great ones in two", x.humps(0, 2), 0);
     }

@@ -93,7 +93,7 @@ public final class ThumbBookSweep extends Desk {
             all *= odd.length;
         }
         for (int which = 0; which < all; which++) {
-            if (which % 400 == 0) {
+            if (which % 300 == 0) {
                 inState(state);
             }
             Object[] numbers = new Object[many];

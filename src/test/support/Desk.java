@@ -131,6 +131,24 @@ class Desk {
         readAll(book, 40, turns);
     }
 
+    /** One LEAF of each of so many KINDS, 0 on. */
+    static String kindsOfOneLeaf(int kinds) {
+        StringBuilder s = new StringBuilder();
+        for (int kind = 0; kind < kinds; kind++) {
+            s.append("text ").append(kind).append(" 1;");
+        }
+        return s.toString();
+    }
+
+    /** By TURN 3 and a WAY 0 of 99 for KIND 0 its LEAVES have 333,333 TURNINGS, so 999,999 of OWN dirt. */
+    static void darkest(int book, String text) {
+        book(book, text);
+        for (int i = 0; i < 6; i++) {
+            x.reader(book, 0, 0, 500);
+        }
+        x.reader(book, 0, 0, 360);
+    }
+
     static void readAll(int book, int born, int... gained) {
         for (int leaf = 0; leaf < gained.length; leaf++) {
             x.read(book, leaf, born + gained[leaf]);
